@@ -21,6 +21,7 @@ public final class MarketSpring {
 
     private static final int NULL = 1, INDEX = 2, CAST = 3, STORE = 4, SIZE = 5;
     private static final int BAD_SETTING = -5, BAD_FLOW = -10000 + BAD;
+    private static final int[] DIGEST_HOURS = {0, 7, 23, 100, 239};
 
     private final Town town = new Town();
     private final int[] settings = SETTING_FIRST.clone();
@@ -50,13 +51,15 @@ public final class MarketSpring {
             return FULL;
         }
         town.append(b);
+        town.parse();
         outdate();
         return town.length;
     }
 
     public int wipe() {
         int had = town.length;
-        town.empty();
+        town.length = 0;
+        town.parse();
         outdate();
         return had;
     }
@@ -222,9 +225,11 @@ public final class MarketSpring {
         int sets = 1 << town.things;
         for (int size = 0; size <= town.things; size++) {
             for (int besides = 0; besides < sets; besides++) {
-                if (Integer.bitCount(besides) == size && (besides & shutBits) == 0
-                        && allGoWithout(besides, days * DAY)) {
-                    return besides;
+                if (Integer.bitCount(besides) == size && (besides & shutBits) == 0) {
+                    makeReady(town.handleBits, shutBits | besides);
+                    if (spring.allGoWithin(days * DAY)) {
+                        return besides;
+                    }
                 }
             }
         }
@@ -437,25 +442,6 @@ public final class MarketSpring {
             h = 31 * h + count(what);
         }
         h = 31 * h + fault();
-        h = digestTown(h);
-        h = digestHour(h, 0);
-        h = digestHour(h, 7);
-        h = digestHour(h, 23);
-        h = digestHour(h, 100);
-        h = digestHour(h, 239);
-        h = 31 * h + lost(2);
-        h = 31 * h + worst(3, 0);
-        h = 31 * h + worst(3, 1);
-        h = 31 * h + fewest(2);
-        h = 31 * h + place(2, 0);
-        h = 31 * h + place(2, 1);
-        h = 31 * h + lasts();
-        h = 31 * h + unlike();
-        return 31 * h + robbed(9, 5, 47);
-    }
-
-    private long digestTown(long before) {
-        long h = before;
         for (int t = 0; t < town.things; t++) {
             for (int what = 0; what <= 5; what++) {
                 h = 31 * h + thing(t, what);
@@ -466,13 +452,21 @@ public final class MarketSpring {
             h = 31 * h + goes(g);
         }
         h = 31 * h + toil(0);
-        return 31 * h + toil(1);
-    }
-
-    private long digestHour(long before, int hour) {
-        long h = 31 * before + level(hour, 0);
-        h = 31 * h + level(hour, 1);
-        return 31 * h + flow(hour);
+        h = 31 * h + toil(1);
+        for (int hour : DIGEST_HOURS) {
+            h = 31 * h + level(hour, 0);
+            h = 31 * h + level(hour, 1);
+            h = 31 * h + flow(hour);
+        }
+        h = 31 * h + lost(2);
+        h = 31 * h + worst(3, 0);
+        h = 31 * h + worst(3, 1);
+        h = 31 * h + fewest(2);
+        h = 31 * h + place(2, 0);
+        h = 31 * h + place(2, 1);
+        h = 31 * h + lasts();
+        h = 31 * h + unlike();
+        return 31 * h + robbed(9, 5, 47);
     }
 
     // ---- what the calls share
@@ -530,11 +524,6 @@ public final class MarketSpring {
         }
     }
 
-    private boolean allGoWithout(int besides, int hours) {
-        makeReady(town.handleBits, shutBits | besides);
-        return spring.allGoWithin(hours);
-    }
-
     private int waitingBits() {
         return (1 << town.things) - 1 & ~town.mustBits() & ~shutBits;
     }
@@ -567,12 +556,6 @@ public final class MarketSpring {
                 text[length] = b;
                 length++;
             }
-            parse();
-        }
-
-        void empty() {
-            length = 0;
-            parse();
         }
 
         boolean hasThing(int thing) {
@@ -614,7 +597,7 @@ public final class MarketSpring {
             return (lasting << from | lasting >> DAY - from) & (1 << DAY) - 1;
         }
 
-        private void parse() {
+        void parse() {
             forgetParts();
             faultAt = NONE;
             at = 0;
@@ -748,21 +731,31 @@ public final class MarketSpring {
 
         /** 0 for the first of its streets, 1 for the second. */
         int sideOf(int group, int handles, int asked) {
-            int first = handleAt(group, 0, handles);
-            int second = handleAt(group, 1, handles);
+            int first = bit(handles, town.ofGroup(group, STREET));
+            int second = bit(handles, town.ofGroup(group, STREET + 1));
             if (asked == 1 && first != second) {
                 return second;
             }
-            return costOf(group, 1, handles) < costOf(group, 0, handles) ? 1 : 0;
+            int firstCost = town.ofGroup(group, LONG) + first * settings[TOIL];
+            int secondCost = town.ofGroup(group, LONG + 1) + second * settings[TOIL];
+            return secondCost < firstCost ? 1 : 0;
         }
 
         int costOfAll(int handles, int asked) {
             int sum = 0;
             for (int g = 0; g < town.groups; g++) {
                 int side = sideOf(g, handles, asked);
-                sum += town.ofGroup(g, PEOPLE) * costOf(g, side, handles);
+                int handle = bit(handles, town.ofGroup(g, STREET + side));
+                int cost = town.ofGroup(g, LONG + side) + handle * settings[TOIL];
+                sum += town.ofGroup(g, PEOPLE) * cost;
             }
             return sum;
+        }
+
+        int windingOfGroup(int group, int handles) {
+            int side = sideOf(group, handles, settings[ASKED]);
+            int handle = bit(handles, town.ofGroup(group, STREET + side));
+            return handle * settings[GIVE] * town.ofGroup(group, PEOPLE);
         }
 
         int windingOf(int hour, int handles) {
@@ -788,20 +781,6 @@ public final class MarketSpring {
             for (int g = 0; g < town.groups; g++) {
                 gains[town.ofGroup(g, WHEN)] += windingOfGroup(g, handles);
             }
-        }
-
-        private int windingOfGroup(int group, int handles) {
-            int side = sideOf(group, handles, settings[ASKED]);
-            return handleAt(group, side, handles) * settings[GIVE] * town.ofGroup(group, PEOPLE);
-        }
-
-        private int handleAt(int group, int side, int handles) {
-            return bit(handles, town.ofGroup(group, STREET + side));
-        }
-
-        private int costOf(int group, int side, int handles) {
-            int toil = handleAt(group, side, handles) * settings[TOIL];
-            return town.ofGroup(group, LONG + side) + toil;
         }
     }
 
@@ -1035,9 +1014,6 @@ public final class MarketSpring {
         }
 
         private void keepTrial(int must, int all) {
-            if (must > mustStood || must == mustStood && all >= allStood) {
-                return;
-            }
             mustStood = must;
             allStood = all;
             for (int w = 0; w < size; w++) {

@@ -112,6 +112,7 @@ public final class CouldTest {
         c.due("23 best(0), three wait", x.best(0), 0);
         c.due("23 best(1), MUST", x.best(1), -3);
         c.due("23 best(4)", x.best(4), -2);
+        c.due("23 best(0), MUST", Check.town("t010001!;t010001").best(0), -3);
         c.due("23 best(-3)", x.best(-3), -2);
         x.shut(2, 1);
         c.due("23 best(2), SHUT", x.best(2), -3);
@@ -144,6 +145,15 @@ public final class CouldTest {
         c.due("23 three: best(0)", x.best(0), 0);
         c.due("23 three: best(1)", x.best(1), 2);
         c.due("23 three: best(2)", x.best(2), 5);
+        x.shut(0, 1);
+        c.due("23 others wait: best(1)", x.best(1), 0);
+        c.due("23 others wait: best(2)", x.best(2), 2);
+        x.shut(1, 1);
+        c.due("23 one waits: best(2)", x.best(2), 0);
+        x.shut(0, 0);
+        c.due("23 others wait: best(0)", x.best(0), 0);
+        c.due("23 others wait: best(2)", x.best(2), 2);
+        x.shut(1, 0);
         x.set(1, 20);
         c.due("23 three, MOST 20: best(1)", x.best(1), 2);
         c.due("23 three, MOST 20: best(2)", x.best(2), 5);

@@ -103,6 +103,10 @@ public final class DaysTest {
         x.set(3, 7);
         c.due("15 TIRE 7: level(0, 0)", x.level(0, 0), 93);
         c.due("15 TIRE 7, cut: level(1, 0)", x.level(1, 0), 87);
+        x.set(3, 99);
+        c.due("15 TIRE 99: level(0, 0)", x.level(0, 0), 1);
+        c.due("15 TIRE 99, cut: level(1, 0)", x.level(1, 0), 1);
+        x.set(3, 7);
         x.set(6, 10);
         c.due("15 chain: level(0, 0)", x.level(0, 0), 83);
         c.due("15 chain: level(0, 1)", x.level(0, 1), 10);
@@ -116,6 +120,10 @@ public final class DaysTest {
         x.set(7, 5);
         c.due("15 half, cut, back: level(0, 0)", x.level(0, 0), 2);
         c.due("15 half, cut, back: level(0, 1)", x.level(0, 1), 3);
+        x.set(2, 20);
+        x.set(7, 60);
+        c.due("15 half the difference: level(0, 0)", x.level(0, 0), 40);
+        c.due("15 half the difference: level(0, 1)", x.level(0, 1), 40);
         x.set(1, 50);
         x.set(2, 45);
         x.set(7, 200);
@@ -157,6 +165,9 @@ public final class DaysTest {
         c.due("17 stood(0, 2)", x.stood(0, 2), 3);
         c.due("17 stood(1, 2)", x.stood(1, 2), 5);
         c.due("17 stood(1, 9)", x.stood(1, 9), 26);
+        x.set(2, 19);
+        c.due("17 from hour 0 on: stood(1, 1)", x.stood(1, 1), 3);
+        x.set(2, 60);
         c.due("17 stood(0, 0)", x.stood(0, 0), -2);
         c.due("17 stood(0, 10)", x.stood(0, 10), -2);
         c.due("17 stood(2, 1)", x.stood(2, 1), -2);
@@ -171,6 +182,10 @@ public final class DaysTest {
         c.due("18 lost(9)", x.lost(9), 110 * 9);
         x.set(1, 500);
         c.due("18 lost(3), room", x.lost(3), 0);
+        MarketSpring y = Check.town("h1;g30001009;g05231009");
+        y.set(1, 100);
+        c.due("18 from hour 0 to 23", y.lost(1), 35);
+        c.due("18 two days", y.lost(2), 70);
         c.due("18 lost(0)", x.lost(0), -2);
         c.due("18 lost(10)", x.lost(10), -2);
     }
@@ -211,6 +226,13 @@ public final class DaysTest {
         c.due("20 worst(10, 0)", x.worst(10, 0), -2);
         c.due("20 worst(1, 2)", x.worst(1, 2), -2);
         c.due("20 worst(1, -1)", x.worst(1, -1), -2);
+        MarketSpring ends = Check.town("t100101;t202301;h1;g90021009;g90121009;t010001");
+        ends.set(1, 100);
+        c.due("20 worst(1, 1), its last hour", ends.worst(1, 1), 23);
+        c.due("20 worst(1, 0), not an hour later", ends.worst(1, 0), 80);
+        ends.shut(1, 1);
+        c.due("20 worst(1, 1), hour 1", ends.worst(1, 1), 1);
+        c.due("20 worst(1, 0), hour 1", ends.worst(1, 0), 89);
         MarketSpring full = new MarketSpring();
         full.set(1, 999);
         full.set(2, 999);

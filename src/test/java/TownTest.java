@@ -77,6 +77,16 @@ public final class TownTest {
         c.due("3 shift stays", y.shift(0, 5), 5);
         c.due("3 seen stays", y.count(4), 1);
         c.due("3 sheets stay", y.lose(1), 7);
+
+        MarketSpring z = Check.town("t100024!;h1;g05071200");
+        c.due("3 level(9, 0)", z.level(9, 0), 0);
+        z.wipe();
+        c.due("3 level(9, 0) when wiped", z.level(9, 0), 100);
+        z.type('t');
+        c.due("3 no byte of before: fault()", z.fault(), 1);
+        Check.typeAll(z, "200001");
+        c.due("3 no ! of before: thing(0, 3)", z.thing(0, 3), 0);
+        c.due("3 no ! of before: fault()", z.fault(), -1);
     }
 
     private static void fault(String text, int want) {
@@ -143,6 +153,7 @@ public final class TownTest {
         fault("g012387x", 7);
         fault("g0123871x", 8);
         fault("g01238719", -1);
+        fault("g01237819", -1);
         fault("g01238719!", 9);
         fault("g012387190", 9);
     }
