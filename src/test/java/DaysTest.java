@@ -13,6 +13,7 @@ public final class DaysTest {
         lost();
         flow();
         worst();
+        fewerThanBefore();
         c.end();
     }
 
@@ -238,5 +239,29 @@ public final class DaysTest {
         full.set(2, 999);
         c.due("20 worst of a full spring", full.worst(9, 0), 999);
         c.due("20 its hour", full.worst(9, 1), 0);
+    }
+
+    /** What an earlier text told must not show behind the last part of a later one. */
+    private static void fewerThanBefore() {
+        MarketSpring x = Check.town("t100024!;t100024!;h1;g30081009;g30081009;g30081009");
+        c.due("13 toil(0), three groups", x.toil(0), 270);
+        c.due("14 wound(8), three groups", x.wound(8), 90);
+        x.wipe();
+        Check.typeAll(x, "t100024;h1;g30081009");
+        c.due("13 toil(0), one group", x.toil(0), 90);
+        c.due("14 wound(8), one group", x.wound(8), 30);
+        c.due("15 level(8, 0), one of each", x.level(8, 0), 40);
+        c.due("36 count(5), one group", x.count(5), 30);
+        c.due("36 count(6), no MUST", x.count(6), 0);
+        c.due("36 count(7), one group", x.count(7), 30);
+        MarketSpring most = Check.town("t010024;t010024;t010024;t010024;t010024;t010024;h1;h2");
+        c.due("15 six things: level(9, 0)", most.level(9, 0), 40);
+        c.due("16 six things: stands(5, 16)", most.stands(5, 16), 1);
+        c.due("16 six things: stands(3, 16)", most.stands(3, 16), 0);
+        most.wipe();
+        Check.typeAll(most, "h1;g01081009;g02081009;g03081009;g04081009;g05081009;g06081009;g07081009;g08081009");
+        c.due("14 eight groups: wound(8)", most.wound(8), 36);
+        c.due("15 eight groups: level(8, 0)", most.level(8, 0), 136);
+        c.due("13 eight groups: toil(1)", most.toil(1), 108);
     }
 }

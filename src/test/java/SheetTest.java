@@ -292,6 +292,22 @@ public final class SheetTest {
         c.due("37 digest() without count(8)", x.digest(), before);
         x.type('?');
         c.due("37 digest() with a fault", x.digest(), digestDue(x));
+        // levels that change every hour, winding that fills up at hour 8 or 9, toil that asking changes
+        for (String when : new String[] {"08", "09"}) {
+            MarketSpring y = Check.town("t030024;h1;h4;g99" + when + "1209;g20105201;g30114500");
+            y.set(1, 999);
+            for (int start : new int[] {999, 180, 120, 90}) {
+                y.set(2, start);
+                c.due("37 digest(), START " + start, y.digest(), digestDue(y));
+            }
+            y.wipe();
+            Check.typeAll(y, "t030024;h4;g30115400");
+            y.set(2, 999);
+            c.due("37 digest(), START 999", y.digest(), digestDue(y));
+            c.holds("37 asking changes toil", y.toil(0) != y.toil(1));
+            y.set(2, 180);
+            c.due("37 digest(), START 180", y.digest(), digestDue(y));
+        }
         MarketSpring empty = new MarketSpring();
         c.due("37 digest() of an empty town", empty.digest(), digestDue(empty));
     }
