@@ -607,6 +607,7 @@ public final class MarketSpring {
                 more = faultAt == NONE && at < length;
                 if (more) {
                     parseBetween();
+                    more = faultAt == NONE;
                 }
             }
             if (faultAt != NONE) {

@@ -2,12 +2,18 @@
 final class Check {
     private int wrong = 0;
     private int looked = 0;
+    private String sentence = "";
+
+    /** The document's sentence that the next rows look at; a wrong row is told with it. */
+    void about(String words) {
+        sentence = "[" + words + "] ";
+    }
 
     void due(String call, long got, long want) {
         looked++;
         if (got != want) {
             wrong++;
-            System.out.println(call + " answered " + got + ", due is " + want);
+            System.out.println(sentence + call + " answered " + got + ", due is " + want);
         }
     }
 
@@ -15,7 +21,7 @@ final class Check {
         looked++;
         if (!held) {
             wrong++;
-            System.out.println("does not hold: " + what);
+            System.out.println(sentence + "does not hold: " + what);
         }
     }
 
