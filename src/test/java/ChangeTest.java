@@ -18,6 +18,7 @@ public final class ChangeTest {
         shutsAndShifts();
         thief();
         sheets();
+        lastCall();
         c.end();
     }
 
@@ -128,5 +129,25 @@ public final class ChangeTest {
         });
         alike("lose", x -> x.lose(0));
         alike("sheet", x -> x.sheet(0, 2, 3));
+    }
+
+    private static void lastCall() {
+        c.about("An object is used for at most 512 calls after it has been made");
+        MarketSpring x = new MarketSpring();
+        for (int round = 0; round < 5; round++) {
+            for (int n = 1; n <= 100; n++) {
+                c.due("byte " + n, x.type('h'), n);
+            }
+            c.due("wipe()", x.wipe(), 100);
+        }
+        Check.typeAll(x, "h1");
+        c.due("call 508", x.set(2, 40), 100);
+        c.due("call 509", x.seen(239, 1), 1);
+        c.due("call 510", x.unlike(), 1);
+        c.due("call 511", x.thief(0), 0);
+        MarketSpring fresh = Check.town("h1");
+        fresh.set(2, 40);
+        fresh.seen(239, 1);
+        c.due("call 512", x.digest(), fresh.digest());
     }
 }
