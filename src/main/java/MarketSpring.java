@@ -8,6 +8,7 @@ public final class MarketSpring {
     private static final int TEXT_MOST = 100, THINGS_MOST = 6, GROUPS_MOST = 8, STREETS = 9;
     private static final int SEEN_MOST = 12, LEVEL_MOST = 999, TAKE_MOST = 40;
     private static final int WAITING_MOST = 3, TRIAL_HOURS = 2 * DAY;
+    private static final int STOOD_ABOVE = THINGS_MOST * TRIAL_HOURS + 1;
     private static final int SHEETS = 4, FORMS = 3, ITEMS_MOST = 48;
 
     private static final int GIVE = 0, MOST = 1, START = 2, TIRE = 3, TOIL = 4, ASKED = 5;
@@ -20,7 +21,7 @@ public final class MarketSpring {
     private static final int PEOPLE = 0, WHEN = 1, STREET = 2, LONG = 4, GROUP_ROW = 6;
 
     private static final int NULL = 1, INDEX = 2, CAST = 3, STORE = 4, SIZE = 5;
-    private static final int BAD_SETTING = -5, BAD_FLOW = -10000 + BAD;
+    private static final int BAD_SETTING = -5, BAD_FLOW = -10000 + BAD, LEAST_INT = 1 << 31;
     private static final int[] DIGEST_HOURS = {0, 7, 23, 100, 239};
 
     private final Town town = new Town();
@@ -367,12 +368,12 @@ public final class MarketSpring {
 
     public int get(int s, int form, int i) {
         if (!isSheet(s) || !isForm(form)) {
-            return Integer.MIN_VALUE;
+            return LEAST_INT;
         }
         int found = findingOfItem(sheets[s], form, i);
         if (found != 0) {
             finding = found;
-            return Integer.MIN_VALUE;
+            return LEAST_INT;
         }
         return sheets[s].items[i];
     }
@@ -961,8 +962,8 @@ public final class MarketSpring {
         void search(Spring spring, Town town, int waitingBits) {
             gather(waitingBits);
             mustBits = town.mustBits();
-            mustStood = Integer.MAX_VALUE;
-            allStood = Integer.MAX_VALUE;
+            mustStood = STOOD_ABOVE;
+            allStood = STOOD_ABOVE;
             int rows = 1;
             for (int w = 0; w < size; w++) {
                 rows *= DAY;

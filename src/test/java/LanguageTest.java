@@ -30,6 +30,9 @@ public final class LanguageTest {
     private static final String[] NEVER = {"throw", "throws", "try", "catch", "finally", "synchronized", "assert",
         "volatile", "native", "protected", "package", "yield", "var", "equals", "hashCode", "toString", "Object",
         "System.out", "Thread", "Random", "Map", "Set", "Exact", "nanoTime", "currentTimeMillis"};
+    /** Rule 4 lists functions, and no constant of the library. */
+    private static final Set<String> LIBRARY = Set.of("Integer.bitCount", "Math.min", "Math.max", "System.arraycopy",
+        "Arrays.fill");
     private static final Pattern METHOD = Pattern.compile(
         "^( {4}| {8})(?:public |private |static )*(?:[A-Za-z\\[\\]]+ )?([A-Za-z]+)\\(([^)]*)\\) \\{$");
 
@@ -42,6 +45,7 @@ public final class LanguageTest {
         staticFields();
         List<String> code = code();
         words(code);
+        library(code);
         methods(code);
         c.end();
     }
@@ -134,6 +138,16 @@ public final class LanguageTest {
                 !line.contains("->") && !line.contains("::") && !line.contains("@") && !line.contains("\""));
             c.holds("no other import: " + line, !line.startsWith("import") || line.equals("import java.util.Arrays;"));
             c.holds("120 signs at most: " + line, line.length() <= 120);
+        }
+    }
+
+    private static void library(List<String> code) {
+        Pattern used = Pattern.compile("\\b[A-Z][A-Za-z]*\\.[A-Za-z_]+");
+        for (String line : code) {
+            Matcher m = used.matcher(line);
+            while (m.find()) {
+                c.holds("rule 4 lists " + m.group(), LIBRARY.contains(m.group()));
+            }
         }
     }
 
